@@ -7,6 +7,7 @@ public final class ImageTest {
         allIsBack();
         notInAnImage();
         twoImages();
+        whatIsWrittenOver();
         due.finish();
     }
 
@@ -118,6 +119,45 @@ public final class ImageTest {
         due.is("text()", x.text(), -10);
         due.is("back(1)", x.back(1), 0);
         due.is("fault() stays", x.fault(), 2);
+    }
+
+    /** Wills, aliases, lines, counts that were written over since are as they were. */
+    private static void whatIsWrittenOver() {
+        WildLevels x = Due.told("sub1 a/b 1 0;sub2 c 0 0;sub2 z 0 0;");
+        x.wake(0, 1, 9);
+        x.wake(1, 0, 9);
+        Due.row(x, "a/b").will(0, 11, 2, 1, 6);
+        x.alias(1, 3);
+        x.say(1, 3, 5, 1, 0);
+        x.carry(1, 0, 0);
+        x.sleep(0, 1);
+        Due.row(x, "c").say(1, 0, 5, 0, 0);
+        x.keep(0);
+        x.wake(0, 0, 9);
+        Due.row(x, "z").will(0, 22, 0, 0, 3);
+        x.alias(1, 3);
+        x.carry(1, 1, 0);
+        x.say(1, 0, 5, 0, 0);
+        x.sleep(0, 1);
+        x.tick(2);
+        due.is("back(0)", x.back(0), 0);
+        due.is("rule(3)", x.rule(3), 1);
+        due.is("client(0, 11)", x.client(0, 11), 6);
+        due.is("line(1, 1, 0, 0)", x.line(1, 1, 0, 0), 1);
+        due.is("say by the alias of then", x.say(1, 3, 5, 0, 0), 1);
+        due.is("client(1, 6)", x.client(1, 6), 1);
+        due.is("tick(5)", x.tick(5), 0);
+        due.is("tick(1), the will of then", x.tick(1), 1);
+        due.is("kept(0, 0)", x.kept(0, 0), 2);
+        due.is("kept(0, 1)", x.kept(0, 1), 11);
+        due.is("kept(0, 2)", x.kept(0, 2), 2);
+        x.wake(0, 0, 9);
+        Due.row(x, "a").will(0, 33, 0, 0, 4);
+        x.keep(1);
+        x.will(0, 44, 1, 1, 0);
+        x.back(1);
+        x.sleep(0, 1);
+        due.is("client(0, 11), the delay of then", x.client(0, 11), 10);
     }
 
     private static void twoImages() {

@@ -17,6 +17,7 @@ public final class LetterTest {
         shareTurns();
         shareOrder();
         shareIsLeft();
+        shareOfAll();
         due.finish();
     }
 
@@ -53,6 +54,11 @@ public final class LetterTest {
         due.is("subscription(0, 1, 1)", x.subscription(0, 1, 1), 1);
         due.is("subscribe, one that it has", x.subscribe(0, 2, 0), 0);
         due.is("subscription(0, 1, 1), new", x.subscription(0, 1, 1), 2);
+        Due.row(x, "a");
+        due.is("subscribe, the first that it has", x.subscribe(0, 2, 0), 0);
+        due.is("subscription(0, 0, 1), new", x.subscription(0, 0, 1), 2);
+        due.is("subscription(0, 4, 1), of a group", x.subscription(0, 4, 1), 1);
+        Due.row(x, "a/+");
         due.is("client(0, 3)", x.client(0, 3), 6);
         due.is("subscribe, of another group the 7th", x.subscribe(0, 2, 1), -3);
         due.is("rule(7)", x.rule(7), 1);
@@ -318,6 +324,34 @@ public final class LetterTest {
             due.is("flight(0, " + i + ", 2), one that ends first is first", y.flight(0, i, 2), then[i]);
         }
         due.is("rule(7)", y.rule(7), 3);
+    }
+
+    /** All six by turns, each from the one before it; sleepers are passed over, client 0 is not. */
+    private static void shareOfAll() {
+        WildLevels x = Due.told("sub0 a/b/c/d 0 3;sub1 a/b/c/d 0 3;sub2 a/b/c/d 0 3;"
+            + "sub3 a/b/c/d 0 3;sub4 a/b/c/d 0 3;sub5 a/b/c/d 0 3;");
+        Due.row(x, "a/b/c/d");
+        x.wake(0, 0, 50);
+        x.say(0, 0, 1, 0, 0);
+        due.is("had(3), the only one awake", x.had(3), 0);
+        x.say(0, 0, 1, 0, 0);
+        due.is("had(3), again", x.had(3), 0);
+        for (int c = 1; c < 6; c++) {
+            x.wake(c, 0, 50);
+        }
+        for (int n = 1; n <= 13; n++) {
+            due.is("say", x.say(0, 0, n, 0, 1), 1);
+            due.is("had(3), by turns", x.had(3), n % 6);
+        }
+        for (int c = 1; c < 6; c++) {
+            x.leave(c, 3);
+        }
+        due.is("had(3), client 0 is left in it", x.had(3), 1);
+        x.carry(0, 0, 0);
+        due.is("took(0, 0, 3), not as kept", x.took(0, 0, 3), 0);
+        Due.row(x, "a/b/c/e");
+        due.is("say to another topic", x.say(0, 0, 1, 0, 0), 0);
+        due.is("had(3) of another filter", x.had(3), -4);
     }
 
     private static void shareIsLeft() {

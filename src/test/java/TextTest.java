@@ -14,6 +14,7 @@ public final class TextTest {
         leastPlaceFirst();
         whatIsTold();
         inPlaceOfAll();
+        oneBehindTheOther();
         faultChangesNothing();
         due.finish();
     }
@@ -86,6 +87,9 @@ public final class TextTest {
 
     private static void tokensThatCannotStandThere() {
         faulty("su 0 a 0 0;", 0, 2);
+        faulty("tub 0 a 0 0;", 0, 2);
+        faulty("suc 0 a 0 0;", 0, 2);
+        faulty("wept a 1 0;", 0, 2);
         faulty("subs 0 a 0 0;", 0, 2);
         faulty("suba 0 0;", 0, 2);
         faulty(" keep a 1 0;", 1, 2);
@@ -237,6 +241,26 @@ public final class TextTest {
         due.is("text()", x.text(), 1);
         Due.row(x, "a");
         due.is("had(1) of a share that is new", x.had(1), -4);
+    }
+
+    /** A text knows nothing of those ahead of it, be they taken or faulty. */
+    private static void oneBehindTheOther() {
+        WildLevels x = Due.told("sub0 a 0 0;sub1 a 0 1;kept a 1 0;kept b 2 0;");
+        Due.type(x, "sub0 b 0 0;sub2 b 0 1;kept c 3 0;").text();
+        Due.type(x, "sub3 c 0 0;kept d 4 0;~").text();
+        due.is("rule(1)", x.rule(1), 1);
+        due.is("rule(6)", x.rule(6), 1);
+        due.is("kept(0, 1)", x.kept(0, 1), 3);
+        due.is("kept(0, 3)", x.kept(0, 3), 0);
+        int[] subscriptions = {1, -4, 1, -4, -4, -4};
+        for (int c = 0; c < 6; c++) {
+            due.is("client(" + c + ", 3)", x.client(c, 3), subscriptions[c]);
+        }
+        due.is("subscription(0, 0, 4)", x.subscription(0, 0, 4), 2);
+        Due.type(x, "sub3 c 0 0;sub0 b 0 0;kept d 4 0;");
+        due.is("text()", x.text(), 3);
+        due.is("client(2, 0)", x.client(2, 0), 0);
+        due.is("rule(7)", x.rule(7), 0);
     }
 
     private static void faultChangesNothing() {
