@@ -72,6 +72,8 @@ final class EdgesOfFacts {
         e.run("wake(2,1,9) row:a subscribe(2,2,0) 4*say(2,0,5,2,0) 3*carry(2,0,0) client(2,8)=3 client(2,7)=3 client(2,6)=1 carry(2,0,2) client(2,8)=4"
             + " 12*carry(2,0,2) client(2,7)=16 client(2,8)=4 client(2,12)=4");
         e.run("row:a wake(2,1,9) client(2,10)=0 will(2,1,0,0,3) client(2,10)=1 sleep(2,1) client(2,10)=0 client(2,11)=3 wake(2,0,9) client(2,10)=0");
+        e.run("row:a wake(2,1,9) will(2,1,0,0,3) sleep(2,1) tick(3)=1 client(2,0)=2 client(2,10)=0 client(2,11)=NONE");
+        e.run("row:a wake(2,1,9) will(2,1,0,0,0) sleep(2,1) rule(1)=1 client(2,0)=2 client(2,10)=0 client(2,11)=NONE wake(2,0,9) client(2,10)=0 sleep(2,1) rule(1)=1");
     }
 
     private void clientNone() {
@@ -173,6 +175,11 @@ final class EdgesOfFacts {
         }
         run.then("carry(2,0,0) 2*carry(2,0,0) carry(2,1,0)=2 flight(2,0,4)=1 flight(2,1,4)=0 flight(2,0,0)=1 sleep(2,0)"
             + " flight(2,0,4)=1 flight(2,3,0)=4 flight(2,15,3)=16");
+        // What was in flight ahead of it leaves nothing to one that waits: no number, no FREED.
+        e.run("wake(1,1,9) wake(2,1,9) row:a subscribe(2,2,0) 4*say(1,0,5,2,0) 4*carry(2,0,0) 4*carry(2,1,0) 4*carry(2,0,0) 4*carry(2,1,0) client(2,4)=0"
+            + " sleep(2,0) 2*say(1,0,6,1,0) flight(2,0,0)=0 flight(2,1,0)=0 flight(2,0,4)=0 flight(2,2,0)=NONE wake(2,0,9) flight(2,0,0)=5 flight(2,1,0)=6");
+        e.run("wake(1,1,9) wake(2,1,9) row:a subscribe(2,2,0) 3*say(1,0,5,2,0) sleep(2,0) wake(2,1,9) subscribe(2,2,0) sleep(2,0) say(1,0,6,2,0)"
+            + " flight(2,0,0)=0 flight(2,0,3)=6 flight(2,1,0)=NONE");
         e.edge(24, "BAD: c, i below 0, what; NONE: there are not so many.");
         wrong(many.toString(), "client(2,4)=4", "flight(-1,0,0)", "flight(6,0,0)", "flight(2,-1,0)", "flight(2,MIN,0)", "flight(2,0,-1)", "flight(2,0,5)",
             "flight(2,0,MIN)", "flight(2,0,MAX)", "flight(2,16,5)", "flight(0,0,5)", "flight(0,-1,0)");
