@@ -95,8 +95,8 @@ public final class WildLevels {
     private int fault;
 
     public WildLevels() {
-        tape = new Tape();
-        reader = new Reader(tape);
+        reader = new Reader();
+        tape = reader.tape;
         world = new World();
         images = new World[IMAGES];
         for (int k = 0; k < IMAGES; k++) {
@@ -1249,7 +1249,7 @@ public final class WildLevels {
     }
 
     /**
-     * Reads the tape into a draft. One token is at hand; it is looked at, then taken, and only then
+     * Reads its tape into a draft. One token is at hand; it is looked at, then taken, and only then
      * is the next one read, so the first fault that is met is the one whose place is least.
      */
     private static final class Reader {
@@ -1266,8 +1266,8 @@ public final class WildLevels {
 
         private static final int FIGURES = 2;
 
-        private final Tape tape;
-        private final World draft;
+        private final Tape tape = new Tape();
+        private final World draft = new World();
         private int next;
         private int start;
         private int kind;
@@ -1275,11 +1275,6 @@ public final class WildLevels {
         private int fault;
         private int place;
         private int lines;
-
-        Reader(Tape tape) {
-            this.tape = tape;
-            draft = new World();
-        }
 
         /** How many lines there are, or -10 less the place of the fault. */
         int read() {

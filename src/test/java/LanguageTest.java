@@ -33,11 +33,13 @@ public final class LanguageTest {
         for (Class<?> type : classes) {
             fields(type);
             methods(type);
+            constructors(type);
         }
         words();
         lengths();
         Map<String, Set<String>> calls = calls(classes);
         for (String method : calls.keySet()) {
+            constructorCalls(method, calls.get(method));
             int deep = depth(method, calls, new HashSet<>());
             due.holds(method + " goes " + deep + " calls deep, eight are the most", deep <= 8);
         }
@@ -112,6 +114,23 @@ public final class LanguageTest {
             due.holds(method + " has at most seven parameters", method.getParameterCount() <= 7);
             boolean isFace = type == WildLevels.class && Modifier.isPublic(method.getModifiers());
             due.holds(method + " bears no name of the face", isFace || !faceNames.contains(method.getName()));
+        }
+    }
+
+    /** Rule 12: what takes numbers alone can not be handed a part of the object that is made. */
+    private static void constructors(Class<?> type) {
+        for (Constructor<?> constructor : type.getDeclaredConstructors()) {
+            for (Class<?> parameter : constructor.getParameterTypes()) {
+                due.holds(constructor + " takes numbers alone", parameter == int.class);
+            }
+        }
+    }
+
+    /** Rule 12. */
+    private static void constructorCalls(String method, Set<String> called) {
+        for (String one : called) {
+            due.holds(method + " calls constructors alone, not " + one, !method.endsWith(".<init>") || one.endsWith(".<init>")
+                || one.startsWith("java/lang/Math."));
         }
     }
 
